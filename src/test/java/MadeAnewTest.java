@@ -1,0 +1,151 @@
+/** Promise 22, and 21: a log without room is made anew in the other half, and crashes in between. */
+public final class MadeAnewTest {
+    public static void main(String[] args) {
+        made();
+        crashes();
+        noRoomAtAll();
+        goneTests();
+        Due.done("MadeAnewTest");
+    }
+
+    /** A test with some 3 * n bytes, another one for each first number. */
+    private static String big(String name, int first, int n) {
+        StringBuilder text = new StringBuilder("test " + name + "{check 0<" + first);
+        for (int k = 0; k < n; k++) {
+            text.append("+1");
+        }
+        return text.append(";}").toString();
+    }
+
+    private static int size(SuiteKeeper x, int test) {
+        return Due.bytes(x, 3, test).split(" ").length;
+    }
+
+    /** Three times some 2036 bytes, and those of the small tests, have room; a fourth time hasn't. */
+    private static SuiteKeeper filled() {
+        SuiteKeeper x = Due.loaded("test a{}" + big("b", 1, 332) + "test c{check 1==2;}");
+        Due.is("bytes", size(x, 1), 6 + 15 + 6 * 332);
+        x.run(1, 1000);
+        for (int first = 2; first <= 3; first++) {
+            Due.reload(x, "test a{}" + big("b", first, 332) + "test c{check 1==2;}");
+            Due.is("one more", x.run(1, 1000), 1);
+        }
+        Due.is("bytes of the log", x.about(9), 31 + 3 * (2 + 4 + 1 + 2013 + 16) + (7 + 21 + 16));
+        Due.is("the first half", x.about(10), 0);
+        return x;
+    }
+
+    private static String tests(int first) {
+        return "test a{}" + big("b", first, 332) + "test c{check 1==2;}";
+    }
+
+    private static void made() {
+        SuiteKeeper x = filled();
+        int written = x.about(7);
+        Due.reload(x, tests(4));
+        Due.is("one is picked", x.about(5), 1);
+        Due.is("run", x.run(1, 1000), 1);
+        Due.is("the other half", x.about(10), 1);
+        Due.is("its epoch", x.about(11), 2);
+        Due.is("bytes of the log", x.about(9), 31 + 44 + 2036);
+        // 75 bytes in two blocks, two heads, then from the second block on
+        Due.is("blocks", x.about(7) - written, 4 + 34);
+        Due.is("the old head", x.disk(2), 0);
+        Due.is("the old head's epoch", x.disk(0), 1);
+        Due.is("the head", x.disk(8192) + 256 * x.disk(8193) + 65536 * x.disk(8194), 65538);
+        String[] lines = Due.entries(x, 1).split("\n");
+        Due.is("a", lines[0], "item 0 a 4 0 2 0 1 0 13 0");
+        Due.is("a", lines[1], "record a 0 0 0 0 0 0 1 0 0 0 0");
+        Due.is("c", lines[2].startsWith("item 1 c 4 0 2 0 14 0 1 1 0 0 0 1 2 0 0 0 23 17 0 13 0"), true);
+        Due.is("c's check stood in entry 1", lines[3], "record c 1 1 0 0 0 0 1 0 1 0 0");
+        Due.is("b", lines[4].startsWith("item 2 b 4 "), true);
+        Due.is("b", lines[5], "record b 0 0 0 0 0 0 4 0 2 0 0");
+        Due.is("all hold", x.about(5), 0);
+        Due.is("recorded since the beginning", x.about(6), 6);
+    }
+
+    /** After each block of it: what is on the disk counts. */
+    private static void crashes() {
+        for (int most = 0; most <= 38; most++) {
+            SuiteKeeper x = filled();
+            Due.reload(x, tests(9));
+            int written = x.about(7);
+            Due.is("recorded with " + most, x.run(1, most), most < 38 ? 0 : 1);
+            Due.is("a holds", x.verdict(0), 0);
+            Due.is("c holds", x.verdict(2), 1);
+            boolean old = most < 3;
+            // the old half, made anew without b, or made anew behind a broken entry of the new one
+            Due.is("half with " + most, x.about(10), old || (most > 4 && most < 38) ? 0 : 1);
+            Due.is("b's record with " + most, x.why(1), old ? 2 : most < 38 ? 1 : 0);
+            Due.is("epoch with " + most, x.about(11), old ? 1 : most > 4 && most < 38 ? 3 : 2);
+            Due.is("the log with " + most, x.about(9), old ? 6183 : most < 38 ? 75 : 75 + 2036);
+            Due.is("blocks with " + most, x.about(7) - written, most + (most > 4 && most < 38 ? 4 : 0));
+            Due.is("the head that didn't come to 0", x.disk(2), old || most == 3 || (most > 4 && most < 38) ? 1 : 0);
+            Due.is("then", x.run(1, 1000), most < 38 ? 1 : 0);
+            Due.is("b holds", x.verdict(1), 0);
+            // what a crash left in the other half's first block is told by its epoch
+            Due.is("epoch then", x.about(11), most == 0 ? 2 : old ? 3 : most > 4 && most < 38 ? 3 : 2);
+        }
+    }
+
+    /** A run for which there is no room even then isn't recorded, but others are. */
+    private static void noRoomAtAll() {
+        SuiteKeeper x = Due.loaded(big("a", 1, 700));
+        x.run(1, 1000);
+        Due.is("bytes of the log", x.about(9), 6 + 15 + 6 * 700 + 7 + 16);
+        StringBuilder sum = new StringBuilder();
+        for (int k = 0; k < 700; k++) {
+            sum.append("+0");
+        }
+        String text = "test a{check f()==1;}test b{check f()==1;}func f():int{return 1" + sum + ";}";
+        Due.reload(x, text);
+        // b has the greater estimate; with a's old record beside it f has no room; then a goes without that
+        Due.is("a alone", x.run(1, 1000), 1);
+        Due.is("b went first", x.slot(0, 0), 1);
+        Due.is("b isn't recorded", x.slot(0, 4), 0);
+        Due.is("b has no record", x.why(1), 1);
+        Due.is("a is recorded", x.slot(1, 4), 1);
+        Due.is("a", x.verdict(0), 0);
+        Due.is("twice made anew", x.about(11), 3);
+        Due.is("bytes of the log", x.about(9), 28 + 7 + 4219 + 18);
+        Due.is("when a ended", x.about(8), 4);
+        Due.is("b has room now", x.run(1, 1000), 1);
+        Due.is("f has its entry", x.about(9), 28 + 7 + 4219 + 18 + 28 + 18);
+        recordThatWent(x, text);
+    }
+
+    /** a's run has no room beside b's record, so that a has none; b's has, as a has none. */
+    private static void recordThatWent(SuiteKeeper x, String text) {
+        Due.reload(x, text.replace("return 1", "return 2"));
+        Due.is("both are picked", x.about(5), 2);
+        Due.is("b alone", x.run(1, 1000), 1);
+        Due.is("a isn't recorded", x.slot(0, 4), 0);
+        Due.is("b is recorded", x.slot(1, 4), 1);
+        Due.is("a has no record", x.why(0), 1);
+        Due.is("b", x.verdict(1), 1);
+        Due.is("twice made anew", x.about(11), 5);
+        Due.is("when b ended", x.about(8), 4);
+        Due.is("when the last one ended", x.about(13), 4);
+        Due.is("a has room then", x.run(1, 1000), 1);
+        Due.is("not made anew", x.about(11), 5);
+        Due.is("recorded since the beginning", x.about(6), 5);
+    }
+
+    /** Records of tests that the revision hasn't stay until the log is made anew. */
+    private static void goneTests() {
+        SuiteKeeper x = filled();
+        Due.reload(x, big("b", 4, 300));
+        x.run(1, 1000);
+        Due.is("made anew", x.about(10), 1);
+        Due.reload(x, "test a{}test c{check 1==2;}");
+        Due.is("a went", x.why(0), 1);
+        Due.is("c went", x.why(1), 1);
+        SuiteKeeper y = filled();
+        Due.reload(y, "test other{}");
+        y.run(1, 1000);
+        Due.is("not made anew", y.about(10), 0);
+        Due.reload(y, "test a{}test c{check 1==2;}");
+        Due.is("a stayed", y.why(0), 0);
+        Due.is("c stayed", y.why(1), 0);
+    }
+}
