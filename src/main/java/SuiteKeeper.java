@@ -600,7 +600,7 @@ public final class SuiteKeeper {
 
     private static int letterCount(long name) {
         int count = 0;
-        while (count < MOST_LETTERS && letterAt(name, count) != 0) {
+        while (count < MOST_LETTERS && (name >>> (8 * count)) != 0) {
             count++;
         }
         return count;
@@ -619,8 +619,11 @@ public final class SuiteKeeper {
     }
 
     private static boolean sameBytes(byte[] some, int from, byte[] others, int othersFrom, int length) {
+        if (from < 0 || othersFrom < 0 || from + length > some.length || othersFrom + length > others.length) {
+            return false;
+        }
         for (int k = 0; k < length; k++) {
-            if (byteAt(some, from + k) != byteAt(others, othersFrom + k)) {
+            if (some[from + k] != others[othersFrom + k]) {
                 return false;
             }
         }

@@ -6,6 +6,7 @@ public final class CodeTest {
         expressions();
         statements();
         names();
+        longCode();
         wrongInputs();
         Due.done("CodeTest");
     }
@@ -83,6 +84,26 @@ public final class CodeTest {
         Due.is("names in the order of need", Due.bytes(x, 3, 0), "4 0 2 0 20 0 "
                 + "6 0 6 0 10 1 9 2 10 3 1 0 0 0 0 8 2 7 0 13"
                 + " 4 0 4 103 108 111 98 2 3 102 117 110 1 3 97 114 114 3 2 112 114");
+    }
+
+    /** Sizes and places of two bytes. */
+    private static void longCode() {
+        StringBuilder sum = new StringBuilder("1");
+        for (int k = 0; k < 100; k++) {
+            sum.append("+1");
+        }
+        SuiteKeeper x = Due.loaded("test t{while(true){let n=" + sum + ";if(true){break;}continue;}}");
+        String[] all = Due.bytes(x, 3, 0).split(" ");
+        // true, unless, round, 101 numbers, 100 sums, set, true, unless, break, continue, back, end
+        int size = 1 + 3 + 1 + 505 + 100 + 2 + 1 + 3 + 3 + 3 + 3 + 1;
+        Due.is("bytes", all.length, 6 + size + 1);
+        Due.is("size", all[4] + " " + all[5], size % 256 + " " + size / 256);
+        int behind = size - 1;
+        Due.is("behind all", all[8] + " " + all[9], behind % 256 + " " + behind / 256);
+        int end = 6 + behind - 12;
+        Due.is("behind the if", all[end + 1] + " " + all[end + 2], (behind - 6) % 256 + " " + (behind - 6) / 256);
+        Due.is("break", all[end + 4] + " " + all[end + 5], behind % 256 + " " + behind / 256);
+        Due.is("continue", all[end + 7] + " " + all[end + 8], "0 0");
     }
 
     private static void wrongInputs() {

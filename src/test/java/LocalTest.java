@@ -43,5 +43,11 @@ public final class LocalTest {
         Due.is("in p", x.traced(3), 0);
         Due.is("a", x.local(0), 0);
         Due.is("c", x.local(1), 0);
+        // what lay where the parameters are now doesn't count
+        SuiteKeeper y = Due.loaded("proc p(a:int){if(a==1){let c=7;let d=8;}check c+d==0;}test t{let n=9+9*(9+9);p(0);p(1);p(0);}");
+        y.trace(0);
+        y.step(100000);
+        Due.is("c and d are 0, then they aren't", y.traced(0), 1);
+        Due.is("in the second call", y.traced(1), 2);
     }
 }

@@ -3,6 +3,8 @@ public final class MadeAnewTest {
     public static void main(String[] args) {
         made();
         crashes();
+        staleBlocks();
+        manyEpochs();
         noRoomAtAll();
         goneTests();
         Due.done("MadeAnewTest");
@@ -86,6 +88,49 @@ public final class MadeAnewTest {
             // what a crash left in the other half's first block is told by its epoch
             Due.is("epoch then", x.about(11), most == 0 ? 2 : old ? 3 : most > 4 && most < 38 ? 3 : 2);
         }
+    }
+
+    /** As above, but the half has blocks of an older epoch behind its log. */
+    private static void staleBlocks() {
+        for (int most = 0; most <= 34; most++) {
+            SuiteKeeper x = filled();
+            for (int first = 4; first <= 7; first++) {
+                Due.reload(x, tests(first));
+                x.run(1, 1000);
+            }
+            Due.is("the first half again", x.about(10), 0);
+            Due.is("epoch", x.about(11), 3);
+            Due.is("the log", x.about(9), 75 + 2036);
+            Due.is("a block behind it", x.disk(64 * 60), 1);
+            Due.reload(x, tests(8));
+            int written = x.about(7);
+            Due.is("recorded with " + most, x.run(1, most), most < 34 ? 0 : 1);
+            boolean anew = most > 0 && most < 34;
+            Due.is("half with " + most, x.about(10), anew ? 1 : 0);
+            Due.is("epoch with " + most, x.about(11), anew ? 4 : 3);
+            Due.is("the log with " + most, x.about(9), most == 34 ? 75 + 2 * 2036 : 75 + 2036);
+            Due.is("on the disk with " + most, Due.log(x, x.about(10)).size(), x.about(9));
+            Due.is("b's record with " + most, x.why(1), most == 34 ? 0 : 2);
+            Due.is("b's revision with " + most, x.record(1, 4), most == 34 ? 8 : 7);
+            Due.is("a holds", x.verdict(0), 0);
+            Due.is("c holds", x.verdict(2), 1);
+            Due.is("blocks with " + most, x.about(7) - written, most + (anew ? 37 : 0));
+        }
+    }
+
+    /** An entry that never gets whole: each crash makes the log anew, with one epoch more. */
+    private static void manyEpochs() {
+        SuiteKeeper x = Due.loaded(big("b", 1, 40));
+        for (int epoch = 2; epoch <= 300; epoch++) {
+            Due.is("run", x.run(1, 1), 0);
+            Due.is("epoch", x.about(11), epoch);
+        }
+        int head = 8192 * x.about(10);
+        Due.is("lowest first", x.disk(head), 300 - 256);
+        Due.is("then the other one", x.disk(head + 1), 1);
+        Due.is("run", x.run(1, 1000), 1);
+        Due.is("lowest first", x.disk(head + 64), 300 - 256);
+        Due.is("then the other one", x.disk(head + 65), 1);
     }
 
     /** A run for which there is no room even then isn't recorded, but others are. */

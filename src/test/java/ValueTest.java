@@ -22,6 +22,7 @@ public final class ValueTest {
         Due.is("what f gave", x.value(0), 12);
         Due.is("10 still", x.value(1), 10);
         sums();
+        deepest();
         Due.fails("no revision", IllegalStateException.class, () -> new SuiteKeeper().value(0));
         Due.done("ValueTest");
     }
@@ -31,6 +32,30 @@ public final class ValueTest {
         x.trace(0);
         x.step(100000);
         Due.is(expression, x.local(0), want);
+    }
+
+    /** Eleven calls within one another, and twenty of these open: no value is lost. */
+    private static void deepest() {
+        StringBuilder text = new StringBuilder("func g(a:bool,b:bool,c:bool,d:bool):int{return 2+3*g(true,false,true,");
+        for (int k = 0; k < 10; k++) {
+            text.append("false|true&4==5+6*g(true,false,true,");
+        }
+        text.append("true");
+        for (int k = 0; k < 11; k++) {
+            text.append(')');
+        }
+        SuiteKeeper x = Due.loaded(text + ";}test t{let n=g(true,true,true,true);}");
+        x.trace(0);
+        x.step(100000);
+        Due.is("too many calls", x.traced(0), 4);
+        Due.is("calls open", x.traced(2), 20);
+        int[] round = {6, 5, 4, 1, 0, 1, 0, 1};
+        Due.is("values", x.traced(5), 4 + 8 * 10 + 2);
+        Due.is("the last parameter", x.value(0), 1);
+        for (int k = 0; k < 80; k++) {
+            int due = k < 3 ? 1 - k % 2 : round[(k - 3) % 8];
+            Due.is("value(" + (k + 1) + ")", x.value(k + 1), due);
+        }
     }
 
     private static void sums() {
