@@ -13,6 +13,7 @@ public final class LoadTest {
         misfitTypes();
         misfitWithin();
         whatStays();
+        oneObject();
         Due.done("LoadTest");
     }
 
@@ -276,6 +277,26 @@ public final class LoadTest {
         misfit("test a{let x=^y;check x;x=1;x=true;}");
         misfit("test a{check (^1|true)==1;}");
         misfit("test a{p(^x);q=1;}proc p(y:int){}");
+    }
+
+    /** What one text leaves behind means nothing to the next one on the same object. */
+    private static void oneObject() {
+        SuiteKeeper x = new SuiteKeeper();
+        Due.is("a fault with ten open", Due.load(x, "test a{let x=" + times("(", 9)), 22);
+        Due.is("twelve are open", Due.load(x, "test a{let x=" + times("(", 11) + "1" + times(")", 11) + ";}"), -1);
+        Due.is("a fault in a loop", Due.load(x, "test a{while(true){let b=1;"), 27);
+        Due.is("no loop", Due.load(x, "test a{break;}"), 7);
+        Due.is("no local", Due.load(x, "test a{b=1;}"), 5007);
+        Due.is("no item", Due.load(x, "global g:int=1;test a{x=1;}"), 5022);
+        Due.is("no global", Due.load(x, "test a{g=1;}"), 5007);
+        Due.is("a first misfit, and a lesser place", Due.load(x, "test a{g=1;}"), 5007);
+        String sum = times("+1", 600).replace("N", "");
+        for (int n = 0; n < 12; n++) {
+            Due.is("a long text", Due.load(x, "test a{let x=" + n + sum + ";}"), -1);
+            Due.is("its number", x.code(3, 0, 7), n);
+            Due.is("its last byte", x.code(3, 0, 6 + 5 + 6 * 600 + 2), 13);
+            Due.is("behind it", x.code(3, 0, 6 + 5 + 6 * 600 + 4), SuiteKeeper.NONE);
+        }
     }
 
     private static void whatStays() {

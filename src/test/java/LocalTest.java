@@ -49,5 +49,12 @@ public final class LocalTest {
         y.step(100000);
         Due.is("c and d are 0, then they aren't", y.traced(0), 1);
         Due.is("in the second call", y.traced(1), 2);
+        SuiteKeeper z = Due.loaded("proc p(){let c=7;}proc q(){if(false){let c=1;}check c==0;}test t{if(false){let n=1;}check n==0;p();q();n=5;}");
+        for (int n = 0; n < 2; n++) {
+            z.trace(0);
+            z.step(100000);
+            Due.is("c of q is 0, and n again", z.traced(0), 0);
+            Due.is("n", z.local(0), 5);
+        }
     }
 }

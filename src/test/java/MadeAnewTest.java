@@ -5,6 +5,8 @@ public final class MadeAnewTest {
         crashes();
         staleBlocks();
         manyEpochs();
+        bothHeadsCount();
+        exactlyFull();
         noRoomAtAll();
         goneTests();
         Due.done("MadeAnewTest");
@@ -102,6 +104,14 @@ public final class MadeAnewTest {
             Due.is("epoch", x.about(11), 3);
             Due.is("the log", x.about(9), 75 + 2036);
             Due.is("a block behind it", x.disk(64 * 60), 1);
+            Due.is("the last block has 2111 % 61", x.disk(64 * 35 + 2), 37);
+            for (int k = 3 + 37; k < 64; k++) {
+                Due.is("the rest of it", x.disk(64 * 35 + k), 0);
+            }
+            for (int k = 3; k < 64; k++) {
+                Due.is("the rest of the heads", x.disk(k) + x.disk(8192 + k), 0);
+            }
+            Due.is("the block behind is an older one", x.disk(64 * 36), 1);
             Due.reload(x, tests(8));
             int written = x.about(7);
             Due.is("recorded with " + most, x.run(1, most), most < 34 ? 0 : 1);
@@ -131,6 +141,54 @@ public final class MadeAnewTest {
         Due.is("run", x.run(1, 1000), 1);
         Due.is("lowest first", x.disk(head + 64), 300 - 256);
         Due.is("then the other one", x.disk(head + 65), 1);
+    }
+
+    /** A crash between the two heads, with the second half being the old one. */
+    private static void bothHeadsCount() {
+        SuiteKeeper x = filled();
+        for (int first = 4; first <= 6; first++) {
+            Due.reload(x, tests(first));
+            x.run(1, 1000);
+        }
+        Due.is("the second half", x.about(10), 1);
+        Due.reload(x, tests(7));
+        Due.is("two blocks and a head", x.run(1, 3), 0);
+        Due.is("the second head counts", x.disk(8192 + 2), 1);
+        Due.is("so does the first", x.disk(2), 1);
+        Due.is("the greater epoch", x.about(11), 3);
+        Due.is("is in the first half", x.about(10), 0);
+        Due.is("b has no record", x.why(1), 1);
+        Due.is("a has", x.why(0), 0);
+    }
+
+    /** 127 blocks of 61 bytes have room, a byte more hasn't. */
+    private static void exactlyFull() {
+        SuiteKeeper x = Due.loaded("test a{}" + big("b", 1, 421));
+        x.run(1, 1000);
+        Due.reload(x, "test a{}" + big("b", 2, 421));
+        x.run(1, 1000);
+        Due.reload(x, "test a{}" + big("b", 3, 422));
+        Due.is("run", x.run(1, 1000), 1);
+        Due.is("full", x.about(9), 7747);
+        Due.is("the first half", x.about(10), 0);
+        Due.is("the last block", x.disk(127 * 64 + 2), 61);
+        Due.is("not the next half", x.disk(8192), 0);
+        Due.reload(x, "test a{}" + big("b", 4, 422));
+        Due.is("a crash ahead of all", x.run(1, 0), 0);
+        Due.is("full, as the disk has it", x.about(9), 7747);
+        Due.is("b's record", x.record(1, 4), 3);
+        Due.is("one byte more makes it anew", x.run(1, 1000), 1);
+        Due.is("the second half", x.about(10), 1);
+        SuiteKeeper y = Due.loaded("test a{let x=true;}" + big("b", 1, 421));
+        y.run(1, 1000);
+        Due.reload(y, "test a{let x=true;}" + big("bb", 1, 421));
+        y.run(1, 1000);
+        int log = y.about(9);
+        Due.is("the first half", y.about(10), 0);
+        Due.reload(y, "test a{let x=true;}" + big("bc", 1, 421));
+        Due.is("one byte too many", log + 7 + 1 + size(y, 1) + 17, 7748);
+        Due.is("run", y.run(1, 1000), 1);
+        Due.is("made anew", y.about(10), 1);
     }
 
     /** A run for which there is no room even then isn't recorded, but others are. */
@@ -185,6 +243,14 @@ public final class MadeAnewTest {
         Due.reload(x, "test a{}test c{check 1==2;}");
         Due.is("a went", x.why(0), 1);
         Due.is("c went", x.why(1), 1);
+        for (int first = 5; first <= 8; first++) {
+            Due.reload(x, big("b", first, 400));
+            x.run(1, 1000);
+        }
+        Due.is("in the first half again", x.about(10), 0);
+        Due.reload(x, "test a{}test c{check 1==2;}");
+        Due.is("a isn't there", x.why(0), 1);
+        Due.is("c isn't there", x.why(1), 1);
         SuiteKeeper y = filled();
         Due.reload(y, "test other{}");
         y.run(1, 1000);

@@ -21,6 +21,7 @@ public final class RecordTest {
         x.run(1, 1000);
         all(x, 0, 1, 0, 1, 2, 2, 1);
         all(x, 2, 0, -1, 0, 0, 2, 1);
+        thirty();
         Class<IllegalArgumentException> wrong = IllegalArgumentException.class;
         Due.fails("6", wrong, () -> x.record(0, 6));
         Due.fails("-1", wrong, () -> x.record(0, -1));
@@ -28,6 +29,36 @@ public final class RecordTest {
         Due.fails("test -1", IndexOutOfBoundsException.class, () -> x.record(-1, 0));
         Due.fails("no revision", IllegalStateException.class, () -> new SuiteKeeper().record(-1, 6));
         Due.done("RecordTest");
+    }
+
+    /** As many items as a text may have, and one test that touches them all. */
+    private static void thirty() {
+        StringBuilder text = new StringBuilder("test t{let n=0;");
+        StringBuilder items = new StringBuilder();
+        for (int k = 0; k < 10; k++) {
+            char letter = (char) ('a' + k);
+            text.append("n=n+g").append(letter).append(';');
+            items.append("global g").append(letter).append(":int=").append(k).append(';');
+        }
+        for (int k = 0; k < 4; k++) {
+            char letter = (char) ('a' + k);
+            text.append("a").append(letter).append("[0]=n;");
+            items.append("array a").append(letter).append("[1];");
+        }
+        for (int k = 0; k < 16; k++) {
+            char letter = (char) ('a' + k);
+            text.append("p").append(letter).append("();");
+            items.append("proc p").append(letter).append("(){}");
+        }
+        SuiteKeeper x = Due.loaded(text + "check n==45;}" + items);
+        Due.is("run", x.run(1, 1000), 1);
+        all(x, 0, 0, -1, 16, 30, 1, 1);
+        Due.is("the last routine", x.touched(0, 2, 15), true);
+        Due.is("the last array", x.touched(0, 1, 3), true);
+        Due.is("the last global", x.touched(0, 0, 9), true);
+        Due.reload(x, text + "check n==45;}" + items.toString().replace("pp(){}", "pp(){return;}"));
+        Due.is("the thirtieth", x.why(0), 32);
+        Due.is("its name", x.whyName(0, 1), 'p');
     }
 
     private static void all(SuiteKeeper x, int test, int... want) {

@@ -45,8 +45,10 @@ public final class ValueTest {
             text.append(')');
         }
         SuiteKeeper x = Due.loaded(text + ";}test t{let n=g(true,true,true,true);}");
-        x.trace(0);
-        x.step(100000);
+        for (int n = 0; n < 3; n++) {
+            x.trace(0);
+            x.step(100000);
+        }
         Due.is("too many calls", x.traced(0), 4);
         Due.is("calls open", x.traced(2), 20);
         int[] round = {6, 5, 4, 1, 0, 1, 0, 1};
