@@ -6,6 +6,7 @@ public final class CodeTest {
         expressions();
         statements();
         names();
+        longNames();
         longCode();
         wrongInputs();
         Due.done("CodeTest");
@@ -84,6 +85,12 @@ public final class CodeTest {
         Due.is("names in the order of need", Due.bytes(x, 3, 0), "4 0 2 0 20 0 "
                 + "6 0 6 0 10 1 9 2 10 3 1 0 0 0 0 8 2 7 0 13"
                 + " 4 0 4 103 108 111 98 2 3 102 117 110 1 3 97 114 114 3 2 112 114");
+    }
+
+    private static void longNames() {
+        SuiteKeeper x = Due.loaded("proc abcdefgh(){}global z:int=1;test t{abcdefgh();z=z;}");
+        Due.is("eight letters and one", Due.bytes(x, 3, 0),
+                "4 0 2 0 7 0 10 0 6 1 7 1 13 2 3 8 97 98 99 100 101 102 103 104 0 1 122");
     }
 
     /** Sizes and places of two bytes. */

@@ -4,6 +4,7 @@ public final class DiskTest {
         wrongInputs();
         firstRecord();
         entries();
+        longNames();
         sharedEntries();
         blocks();
         Due.done("DiskTest");
@@ -44,6 +45,13 @@ public final class DiskTest {
         Due.is("entries", Due.entries(x, 0), "item 0 t " + t + "\nitem 1 h 0 0 255 255 255 255\n"
                 + "item 2 g 0 0 44 1 0 0\nitem 3 a 1 9\nitem 4 z " + z + "\nitem 5 y " + y
                 + "\nrecord t 1 5 0 1 2 0 1 0 0 0 5 1 0 2 0 3 0 4 0 5 0\n");
+    }
+
+    private static void longNames() {
+        SuiteKeeper x = Due.loaded("proc abcdefgh(){}test zyxwvuts{abcdefgh();}");
+        x.run(1, 1000);
+        Due.is("entries", Due.entries(x, 0), "item 0 zyxwvuts 4 0 2 0 3 0 10 0 13 1 3 8 97 98 99 100 101 102 103 104\n"
+                + "item 1 abcdefgh 3 0 2 0 1 0 12 0\nrecord zyxwvuts 0 0 0 0 1 0 1 0 0 0 1 1 0\n");
     }
 
     private static void sharedEntries() {

@@ -40,6 +40,10 @@ public final class LoadTest {
         fault("  # test a{}\n ^");
         fault("test a{^");
         fault("test a{} ^x");
+        fault("test a{}^$");
+        fault("test a{}^abcdefghi");
+        fault("test a{}^1234567");
+        fault("^$");
     }
 
     private static void signs() {
