@@ -40,7 +40,7 @@ final class Due {
         }
     }
 
-    static void put(SuiteKeeper keeper, String text) {
+    static void put(Keeper keeper, String text) {
         for (int k = 0; k < text.length(); k += 4) {
             int signs = 0;
             for (int n = 0; n < 4 && k + n < text.length(); n++) {
@@ -50,23 +50,30 @@ final class Due {
         }
     }
 
-    static int load(SuiteKeeper keeper, String text) {
+    static int load(Keeper keeper, String text) {
         put(keeper, text);
         return keeper.load();
     }
 
-    static SuiteKeeper loaded(String text) {
-        SuiteKeeper keeper = new SuiteKeeper();
+    static Keeper loaded(String text) {
+        Keeper keeper = new Keeper();
         is("load of " + text, load(keeper, text), SuiteKeeper.NONE);
         return keeper;
     }
 
-    static void reload(SuiteKeeper keeper, String text) {
+    /** As above, for what can't be come to with 512 calls. */
+    static Keeper loadedBeyond(String text) {
+        Keeper keeper = Keeper.beyond();
+        is("load of " + text, load(keeper, text), SuiteKeeper.NONE);
+        return keeper;
+    }
+
+    static void reload(Keeper keeper, String text) {
         is("load of " + text, load(keeper, text), SuiteKeeper.NONE);
     }
 
     /** The bytes of an item, with blanks between them. */
-    static String bytes(SuiteKeeper keeper, int kind, int item) {
+    static String bytes(Keeper keeper, int kind, int item) {
         StringBuilder all = new StringBuilder();
         for (int k = 0; keeper.code(kind, item, k) != SuiteKeeper.NONE; k++) {
             all.append(k == 0 ? "" : " ").append(keeper.code(kind, item, k));
@@ -74,7 +81,7 @@ final class Due {
         return all.toString();
     }
 
-    static String listing(SuiteKeeper keeper, int kind, int item) {
+    static String listing(Keeper keeper, int kind, int item) {
         StringBuilder all = new StringBuilder();
         for (int k = 0; keeper.listing(kind, item, k) != SuiteKeeper.NONE; k++) {
             all.append((char) keeper.listing(kind, item, k));
@@ -83,7 +90,7 @@ final class Due {
     }
 
     /** The log of a half as the document tells how to read it. */
-    static List<Integer> log(SuiteKeeper keeper, int half) {
+    static List<Integer> log(Keeper keeper, int half) {
         List<Integer> log = new ArrayList<>();
         int head = half * 8192;
         for (int block = 1; block < 128; block++) {
@@ -103,7 +110,7 @@ final class Due {
     }
 
     /** A line for each entry of the half's log: its name and its other bytes. */
-    static String entries(SuiteKeeper keeper, int half) {
+    static String entries(Keeper keeper, int half) {
         List<Integer> log = log(keeper, half);
         StringBuilder all = new StringBuilder();
         int at = 0;

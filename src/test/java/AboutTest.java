@@ -11,7 +11,7 @@ public final class AboutTest {
         Due.done("AboutTest");
     }
 
-    private static void all(SuiteKeeper x, int... want) {
+    private static void all(Keeper x, int... want) {
         for (int what = 0; what < want.length; what++) {
             Due.is("about(" + what + ")", x.about(what), want[what]);
         }
@@ -23,7 +23,7 @@ public final class AboutTest {
     }
 
     private static void afterRuns() {
-        SuiteKeeper x = Due.loaded("test s{}test t{}");
+        Keeper x = Due.loaded("test s{}test t{}");
         // an item's entry of one letter and 8 bytes has 15 bytes, a record of it 16
         Due.is("run", x.run(1, 1000), 2);
         all(x, 0, 0, 0, 2, 1, 0, 2, 3, 2, 62, 0, 1, 0, 2, 2);
@@ -41,13 +41,13 @@ public final class AboutTest {
     }
 
     private static void times() {
-        SuiteKeeper x = Due.loaded("test a{let i=0;while(i<5){i=i+1;}}test b{}test c{}test d{}");
+        Keeper x = Due.loaded("test a{let i=0;while(i<5){i=i+1;}}test b{}test c{}test d{}");
         Due.is("run", x.run(2, 1000), 4);
         // 6 on the one worker, 1 and 1 and 1 on the other
         Due.is("the last one ended", x.about(13), 6);
         Due.is("the longest", x.about(14), 6);
         Due.is("the last recorded one ended", x.about(8), 6);
-        SuiteKeeper y = Due.loaded("test a{}test b{}test c{}test d{}test e{}");
+        Keeper y = Due.loaded("test a{}test b{}test c{}test d{}test e{}");
         Due.is("a crash ahead of all", y.run(2, 0), 0);
         Due.is("none was recorded", y.about(8), 0);
         Due.is("the last one ended, recorded or not", y.about(13), 3);
@@ -62,11 +62,11 @@ public final class AboutTest {
     }
 
     private static void wrongInputs() {
-        SuiteKeeper x = Due.loaded("test a{}");
+        Keeper x = Due.loaded("test a{}");
         int[] none = {-1, 15, 100, Integer.MAX_VALUE, Integer.MIN_VALUE};
         for (int what : none) {
             Due.fails("about(" + what + ")", IllegalArgumentException.class, () -> x.about(what));
         }
-        Due.fails("no revision comes first", IllegalStateException.class, () -> new SuiteKeeper().about(15));
+        Due.fails("no revision comes first", IllegalStateException.class, () -> new Keeper().about(15));
     }
 }

@@ -1,7 +1,7 @@
 /** Promise 19: cell. */
 public final class CellTest {
     public static void main(String[] args) {
-        SuiteKeeper x = Due.loaded("array a[1];array b[32];test t{let i=0;while(i<32){b[i]=i+1;i=i+1;}a[0]=b[31]*2;}test u{}");
+        Keeper x = Due.loaded("array a[1];array b[32];test t{let i=0;while(i<32){b[i]=i+1;i=i+1;}a[0]=b[31]*2;}test u{}");
         Class<IndexOutOfBoundsException> none = IndexOutOfBoundsException.class;
         Due.fails("no trace", IllegalStateException.class, () -> x.cell(9, 9));
         x.trace(0);
@@ -20,7 +20,7 @@ public final class CellTest {
         Due.is("a run leaves it", x.cell(0, 0), 64);
         x.trace(1);
         Due.is("0 again", x.cell(0, 0), 0);
-        Due.fails("no revision", IllegalStateException.class, () -> new SuiteKeeper().cell(0, 0));
+        Due.fails("no revision", IllegalStateException.class, () -> new Keeper().cell(0, 0));
         Due.done("CellTest");
     }
 }

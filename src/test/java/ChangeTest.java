@@ -1,7 +1,7 @@
 /** Promise 8: change. */
 public final class ChangeTest {
     public static void main(String[] args) {
-        SuiteKeeper x = Due.loaded("global g:int=1;array b[2];func f():int{return g;}test t{check f()==1;}test u{}");
+        Keeper x = Due.loaded("global g:int=1;array b[2];func f():int{return g;}test t{check f()==1;}test u{}");
         Due.is("no revision ahead", x.change(0, 0), SuiteKeeper.NONE);
         Due.is("no revision ahead", x.change(3, 1), SuiteKeeper.NONE);
         // the order in the text doesn't count, nor blanks; g is another one, u a proc now, n is new
@@ -30,7 +30,7 @@ public final class ChangeTest {
         Due.fails("kind -1", none, () -> x.change(-1, 0));
         Due.fails("test 1", none, () -> x.change(3, 1));
         Due.fails("test -1", none, () -> x.change(3, -1));
-        Due.fails("no revision", IllegalStateException.class, () -> new SuiteKeeper().change(4, 0));
+        Due.fails("no revision", IllegalStateException.class, () -> new Keeper().change(4, 0));
         Due.done("ChangeTest");
     }
 }

@@ -13,7 +13,7 @@ public final class CodeTest {
     }
 
     private static void data() {
-        SuiteKeeper x = Due.loaded("global a:int=-2;array b[32];global c:bool=true;global d:bool=false;"
+        Keeper x = Due.loaded("global a:int=-2;array b[32];global c:bool=true;global d:bool=false;"
                 + "global e:int=999999;array f[1];");
         Due.is("a", Due.bytes(x, 0, 0), "0 0 254 255 255 255");
         Due.is("c", Due.bytes(x, 0, 1), "0 1 1 0 0 0");
@@ -26,7 +26,7 @@ public final class CodeTest {
     }
 
     private static void heads() {
-        SuiteKeeper x = Due.loaded("func f(a:int,b:bool,c:int,d:bool):bool{let e=1;}func g():int{}proc p(a:bool){}test t{}");
+        Keeper x = Due.loaded("func f(a:int,b:bool,c:int,d:bool):bool{let e=1;}func g():int{}proc p(a:bool){}test t{}");
         Due.is("f", Due.bytes(x, 2, 0), "2 4 0 1 0 1 1 5 9 0 1 1 0 0 0 5 4 3 11 0");
         Due.is("g", Due.bytes(x, 2, 1), "2 0 0 0 6 0 1 0 0 0 0 11 0");
         Due.is("p", Due.bytes(x, 2, 2), "3 1 1 2 1 1 0 12 0");
@@ -35,7 +35,7 @@ public final class CodeTest {
 
     /** The code alone of a test with these statements. */
     private static String code(String statements) {
-        SuiteKeeper x = Due.loaded("test t{" + statements + "}global g:int=1;global h:bool=true;array b[2];"
+        Keeper x = Due.loaded("test t{" + statements + "}global g:int=1;global h:bool=true;array b[2];"
                 + "func f(x:int,y:int):int{}proc p(){}");
         String[] all = Due.bytes(x, 3, 0).split(" ");
         int size = Integer.parseInt(all[4]) + 256 * Integer.parseInt(all[5]);
@@ -73,14 +73,14 @@ public final class CodeTest {
         Due.is("break, continue", code("while(h){break;continue;}"), "6 0 15 15 0 16 14 15 0 14 0 0 14 0 0 13");
         Due.is("inner while", code("while(h){while(h){break;}break;}"),
                 "6 0 15 24 0 16 6 0 15 18 0 16 14 18 0 14 6 0 14 24 0 14 0 0 13");
-        SuiteKeeper x = Due.loaded("func f(a:int):int{return a;}proc p(){return;}func q():bool{return true;}");
+        Keeper x = Due.loaded("func f(a:int):int{return a;}proc p(){return;}func q():bool{return true;}");
         Due.is("return of an int", Due.bytes(x, 2, 0), "2 1 0 0 1 9 0 4 0 11 1 0 0 0 0 11 0");
         Due.is("return", Due.bytes(x, 2, 1), "3 0 2 0 2 0 12 12 0");
         Due.is("return of a bool", Due.bytes(x, 2, 2), "2 0 1 0 4 0 2 11 3 11 0");
     }
 
     private static void names() {
-        SuiteKeeper x = Due.loaded("test t{arr[glob]=fun(glob);pr();glob=arr[0];}proc pr(){}func fun(a:int):int{}"
+        Keeper x = Due.loaded("test t{arr[glob]=fun(glob);pr();glob=arr[0];}proc pr(){}func fun(a:int):int{}"
                 + "array arr[1];global glob:int=0;");
         Due.is("names in the order of need", Due.bytes(x, 3, 0), "4 0 2 0 20 0 "
                 + "6 0 6 0 10 1 9 2 10 3 1 0 0 0 0 8 2 7 0 13"
@@ -88,7 +88,7 @@ public final class CodeTest {
     }
 
     private static void longNames() {
-        SuiteKeeper x = Due.loaded("proc abcdefgh(){}global z:int=1;test t{abcdefgh();z=z;}");
+        Keeper x = Due.loaded("proc abcdefgh(){}global z:int=1;test t{abcdefgh();z=z;}");
         Due.is("eight letters and one", Due.bytes(x, 3, 0),
                 "4 0 2 0 7 0 10 0 6 1 7 1 13 2 3 8 97 98 99 100 101 102 103 104 0 1 122");
     }
@@ -99,7 +99,7 @@ public final class CodeTest {
         for (int k = 0; k < 100; k++) {
             sum.append("+1");
         }
-        SuiteKeeper x = Due.loaded("test t{while(true){let n=" + sum + ";if(true){break;}continue;}}");
+        Keeper x = Due.loaded("test t{while(true){let n=" + sum + ";if(true){break;}continue;}}");
         String[] all = Due.bytes(x, 3, 0).split(" ");
         // true, unless, round, 101 numbers, 100 sums, set, true, unless, break, continue, back, end
         int size = 1 + 3 + 1 + 505 + 100 + 2 + 1 + 3 + 3 + 3 + 3 + 1;
@@ -114,7 +114,7 @@ public final class CodeTest {
     }
 
     private static void wrongInputs() {
-        SuiteKeeper x = Due.loaded("global g:int=1;test t{}");
+        Keeper x = Due.loaded("global g:int=1;test t{}");
         Class<IndexOutOfBoundsException> none = IndexOutOfBoundsException.class;
         Due.fails("kind 4", none, () -> x.code(4, 0, 0));
         Due.fails("kind -1", none, () -> x.code(-1, 0, 0));
@@ -124,6 +124,6 @@ public final class CodeTest {
         Due.fails("test -1", none, () -> x.code(3, -1, 0));
         Due.fails("byte -1", none, () -> x.code(3, 0, -1));
         Due.fails("byte least", none, () -> x.code(3, 0, Integer.MIN_VALUE));
-        Due.fails("no revision", IllegalStateException.class, () -> new SuiteKeeper().code(4, 0, 0));
+        Due.fails("no revision", IllegalStateException.class, () -> new Keeper().code(4, 0, 0));
     }
 }

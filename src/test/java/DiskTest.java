@@ -11,7 +11,7 @@ public final class DiskTest {
     }
 
     private static void wrongInputs() {
-        SuiteKeeper x = new SuiteKeeper();
+        Keeper x = new Keeper();
         Class<IndexOutOfBoundsException> none = IndexOutOfBoundsException.class;
         Due.fails("-1", none, () -> x.disk(-1));
         Due.fails("16384", none, () -> x.disk(16384));
@@ -21,7 +21,7 @@ public final class DiskTest {
     }
 
     private static void firstRecord() {
-        SuiteKeeper x = Due.loaded("test ab{}");
+        Keeper x = Due.loaded("test ab{}");
         x.run(1, 1000);
         int[] want = {1, 0, 33, 14, 0, 1, 0, 0, 2, 'a', 'b', 4, 0, 2, 0, 1, 0, 13, 0,
             15, 0, 2, 2, 'a', 'b', 0, 0, 0, 0, 0, 0, 1, 0, 0, 0, 0};
@@ -33,7 +33,7 @@ public final class DiskTest {
 
     /** Bytes above 127, each field of a record, and the order of what was touched. */
     private static void entries() {
-        SuiteKeeper x = Due.loaded("func z():int{return a[0];}global h:int=-1;array a[9];global g:int=300;"
+        Keeper x = Due.loaded("func z():int{return a[0];}global h:int=-1;array a[9];global g:int=300;"
                 + "proc y(n:int){check true;check n==h;}test t{y(z()+g);}");
         x.run(1, 1000);
         String y = "3 1 0 2 1 11 0 2 17 0 4 0 6 0 23 17 1 12 1 0 1 104";
@@ -48,14 +48,14 @@ public final class DiskTest {
     }
 
     private static void longNames() {
-        SuiteKeeper x = Due.loaded("proc abcdefgh(){}test zyxwvuts{abcdefgh();}");
+        Keeper x = Due.loaded("proc abcdefgh(){}test zyxwvuts{abcdefgh();}");
         x.run(1, 1000);
         Due.is("entries", Due.entries(x, 0), "item 0 zyxwvuts 4 0 2 0 3 0 10 0 13 1 3 8 97 98 99 100 101 102 103 104\n"
                 + "item 1 abcdefgh 3 0 2 0 1 0 12 0\nrecord zyxwvuts 0 0 0 0 1 0 1 0 0 0 1 1 0\n");
     }
 
     private static void sharedEntries() {
-        SuiteKeeper x = Due.loaded("global g:int=1;test t{check g==1;}test u{check g==2;}");
+        Keeper x = Due.loaded("global g:int=1;test t{check g==1;}test u{check g==2;}");
         x.run(1, 1000);
         String t = "4 0 2 0 11 0 6 0 1 1 0 0 0 23 17 0 13 1 0 1 103";
         String u = t.replace("1 1 0 0 0", "1 2 0 0 0");
@@ -74,7 +74,7 @@ public final class DiskTest {
 
     /** The block in which the log ends is written again; all but the last one have 61. */
     private static void blocks() {
-        SuiteKeeper x = Due.loaded("test a{}test b{}test c{}test d{}");
+        Keeper x = Due.loaded("test a{}test b{}test c{}test d{}");
         x.run(1, 1);
         Due.is("31 bytes", x.disk(64 + 2), 31);
         Due.is("no second block", x.disk(128 + 2), 0);

@@ -1,7 +1,7 @@
 /** Promise 3: end. */
 public final class EndTest {
     public static void main(String[] args) {
-        SuiteKeeper x = new SuiteKeeper();
+        Keeper x = new Keeper();
         Class<IllegalArgumentException> wrong = IllegalArgumentException.class;
         x.end(0);
         Due.fails("end(1)", wrong, () -> x.end(1));

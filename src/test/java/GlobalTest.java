@@ -1,7 +1,7 @@
 /** Promise 18: global. */
 public final class GlobalTest {
     public static void main(String[] args) {
-        SuiteKeeper x = Due.loaded("global a:int=-5;test t{a=a+1;b=!b;}global b:bool=true;");
+        Keeper x = Due.loaded("global a:int=-5;test t{a=a+1;b=!b;}global b:bool=true;");
         Class<IndexOutOfBoundsException> none = IndexOutOfBoundsException.class;
         Due.fails("no trace", IllegalStateException.class, () -> x.global(9));
         x.trace(0);
@@ -16,7 +16,7 @@ public final class GlobalTest {
         Due.is("b", x.global(1), 0);
         x.run(1, 100);
         Due.is("a run leaves it", x.global(0), -4);
-        Due.fails("no revision", IllegalStateException.class, () -> new SuiteKeeper().global(0));
+        Due.fails("no revision", IllegalStateException.class, () -> new Keeper().global(0));
         Due.done("GlobalTest");
     }
 }

@@ -1,7 +1,7 @@
 /** Promise 9: gone. */
 public final class GoneTest {
     public static void main(String[] args) {
-        SuiteKeeper x = Due.loaded("test tb{}proc pa(){}global gb:int=1;test ta{}array ab[1];func fa():int{}"
+        Keeper x = Due.loaded("test tb{}proc pa(){}global gb:int=1;test ta{}array ab[1];func fa():int{}"
                 + "global ga:bool=true;array abcdefgh[2];");
         Class<IndexOutOfBoundsException> none = IndexOutOfBoundsException.class;
         Due.is("none is gone", x.about(12), 0);
@@ -20,7 +20,7 @@ public final class GoneTest {
         Due.fails("i -1", none, () -> x.gone(-1, 0));
         Due.fails("i 7", none, () -> x.gone(7, 0));
         Due.fails("k -1", none, () -> x.gone(0, -1));
-        Due.fails("no revision", IllegalStateException.class, () -> new SuiteKeeper().gone(-1, 0));
+        Due.fails("no revision", IllegalStateException.class, () -> new Keeper().gone(-1, 0));
         Due.reload(x, "test pa{}test n{}");
         Due.is("none against the revision ahead", x.about(12), 0);
         Due.fails("none is gone", none, () -> x.gone(0, 0));

@@ -1,7 +1,7 @@
 /** Promise 10: listing. */
 public final class ListingTest {
     public static void main(String[] args) {
-        SuiteKeeper x = Due.loaded("global glob:int=0;array arr[2];proc pr(n:int){return;}"
+        Keeper x = Due.loaded("global glob:int=0;array arr[2];proc pr(n:int){return;}"
                 + "func fun(n:int,b:bool):int{arr[n]=-n;if(!b|b&b){return arr[n]+1-2*3/4%999999;}else{glob=glob;}}"
                 + "test t{while(1<2){break;}check 1==1;check 1!=2;check 1<=2;pr(fun(0,false));let x=true;}");
         Due.is("pr", Due.listing(x, 2, 0), "0 return\n1 return\n");
@@ -23,7 +23,7 @@ public final class ListingTest {
         Due.fails("routine 2", none, () -> x.listing(2, 2, 0));
         Due.fails("test -1", none, () -> x.listing(3, -1, 0));
         Due.fails("sign -1", none, () -> x.listing(3, 0, -1));
-        Due.fails("no revision", IllegalStateException.class, () -> new SuiteKeeper().listing(0, 0, -1));
+        Due.fails("no revision", IllegalStateException.class, () -> new Keeper().listing(0, 0, -1));
         Due.done("ListingTest");
     }
 }

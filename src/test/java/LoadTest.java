@@ -20,17 +20,17 @@ public final class LoadTest {
     private static void fault(String marked) {
         int place = marked.indexOf('^');
         String text = marked.substring(0, place) + marked.substring(place + 1);
-        Due.is("load of " + text, Due.load(new SuiteKeeper(), text), place);
+        Due.is("load of " + text, Due.load(new Keeper(), text), place);
     }
 
     private static void misfit(String marked) {
         int place = marked.indexOf('^');
         String text = marked.substring(0, place) + marked.substring(place + 1);
-        Due.is("load of " + text, Due.load(new SuiteKeeper(), text), 5000 + place);
+        Due.is("load of " + text, Due.load(new Keeper(), text), 5000 + place);
     }
 
     private static void fine(String text) {
-        Due.is("load of " + text, Due.load(new SuiteKeeper(), text), SuiteKeeper.NONE);
+        Due.is("load of " + text, Due.load(new Keeper(), text), SuiteKeeper.NONE);
     }
 
     private static void answers() {
@@ -285,7 +285,7 @@ public final class LoadTest {
 
     /** What one text leaves behind means nothing to the next one on the same object. */
     private static void oneObject() {
-        SuiteKeeper x = new SuiteKeeper();
+        Keeper x = new Keeper();
         Due.is("a fault with ten open", Due.load(x, "test a{let x=" + times("(", 9)), 22);
         Due.is("twelve are open", Due.load(x, "test a{let x=" + times("(", 11) + "1" + times(")", 11) + ";}"), -1);
         Due.is("a fault in a loop", Due.load(x, "test a{while(true){let b=1;"), 27);
@@ -294,17 +294,17 @@ public final class LoadTest {
         Due.is("no item", Due.load(x, "global g:int=1;test a{x=1;}"), 5022);
         Due.is("no global", Due.load(x, "test a{g=1;}"), 5007);
         Due.is("a first misfit, and a lesser place", Due.load(x, "test a{g=1;}"), 5007);
-        String sum = times("+1", 600).replace("N", "");
-        for (int n = 0; n < 12; n++) {
+        String sum = times("+1", 300).replace("N", "");
+        for (int n = 0; n < 2; n++) {
             Due.is("a long text", Due.load(x, "test a{let x=" + n + sum + ";}"), -1);
             Due.is("its number", x.code(3, 0, 7), n);
-            Due.is("its last byte", x.code(3, 0, 6 + 5 + 6 * 600 + 2), 13);
-            Due.is("behind it", x.code(3, 0, 6 + 5 + 6 * 600 + 4), SuiteKeeper.NONE);
+            Due.is("its last byte", x.code(3, 0, 6 + 5 + 6 * 300 + 2), 13);
+            Due.is("behind it", x.code(3, 0, 6 + 5 + 6 * 300 + 4), SuiteKeeper.NONE);
         }
     }
 
     private static void whatStays() {
-        SuiteKeeper x = Due.loaded("global g:int=1;test a{check g==1;}test b{}");
+        Keeper x = Due.loaded("global g:int=1;test a{check g==1;}test b{}");
         x.run(1, 100);
         x.trace(0);
         x.step(1);

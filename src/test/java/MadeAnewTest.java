@@ -1,4 +1,9 @@
-/** Promise 22, and 21: a log without room is made anew in the other half, and crashes in between. */
+/**
+ * Promise 22, and 21: a log without room is made anew in the other half, and crashes in between.
+ *
+ * <p>Four signs a call make at most some 14 bytes of the log, so that 512 calls can't fill its 7747:
+ * these objects get more calls than the document speaks of, as there is no other way to come there.
+ */
 public final class MadeAnewTest {
     public static void main(String[] args) {
         made();
@@ -21,13 +26,13 @@ public final class MadeAnewTest {
         return text.append(";}").toString();
     }
 
-    private static int size(SuiteKeeper x, int test) {
+    private static int size(Keeper x, int test) {
         return Due.bytes(x, 3, test).split(" ").length;
     }
 
     /** Three times some 2036 bytes, and those of the small tests, have room; a fourth time hasn't. */
-    private static SuiteKeeper filled() {
-        SuiteKeeper x = Due.loaded("test a{}" + big("b", 1, 332) + "test c{check 1==2;}");
+    private static Keeper filled() {
+        Keeper x = Due.loadedBeyond("test a{}" + big("b", 1, 332) + "test c{check 1==2;}");
         Due.is("bytes", size(x, 1), 6 + 15 + 6 * 332);
         x.run(1, 1000);
         for (int first = 2; first <= 3; first++) {
@@ -44,7 +49,7 @@ public final class MadeAnewTest {
     }
 
     private static void made() {
-        SuiteKeeper x = filled();
+        Keeper x = filled();
         int written = x.about(7);
         Due.reload(x, tests(4));
         Due.is("one is picked", x.about(5), 1);
@@ -71,7 +76,7 @@ public final class MadeAnewTest {
     /** After each block of it: what is on the disk counts. */
     private static void crashes() {
         for (int most = 0; most <= 38; most++) {
-            SuiteKeeper x = filled();
+            Keeper x = filled();
             Due.reload(x, tests(9));
             int written = x.about(7);
             Due.is("recorded with " + most, x.run(1, most), most < 38 ? 0 : 1);
@@ -95,7 +100,7 @@ public final class MadeAnewTest {
     /** As above, but the half has blocks of an older epoch behind its log. */
     private static void staleBlocks() {
         for (int most = 0; most <= 34; most++) {
-            SuiteKeeper x = filled();
+            Keeper x = filled();
             for (int first = 4; first <= 7; first++) {
                 Due.reload(x, tests(first));
                 x.run(1, 1000);
@@ -130,7 +135,7 @@ public final class MadeAnewTest {
 
     /** An entry that never gets whole: each crash makes the log anew, with one epoch more. */
     private static void manyEpochs() {
-        SuiteKeeper x = Due.loaded(big("b", 1, 40));
+        Keeper x = Due.loadedBeyond(big("b", 1, 40));
         for (int epoch = 2; epoch <= 300; epoch++) {
             Due.is("run", x.run(1, 1), 0);
             Due.is("epoch", x.about(11), epoch);
@@ -145,7 +150,7 @@ public final class MadeAnewTest {
 
     /** A crash between the two heads, with the second half being the old one. */
     private static void bothHeadsCount() {
-        SuiteKeeper x = filled();
+        Keeper x = filled();
         for (int first = 4; first <= 6; first++) {
             Due.reload(x, tests(first));
             x.run(1, 1000);
@@ -163,7 +168,7 @@ public final class MadeAnewTest {
 
     /** 127 blocks of 61 bytes have room, a byte more hasn't. */
     private static void exactlyFull() {
-        SuiteKeeper x = Due.loaded("test a{}" + big("b", 1, 421));
+        Keeper x = Due.loadedBeyond("test a{}" + big("b", 1, 421));
         x.run(1, 1000);
         Due.reload(x, "test a{}" + big("b", 2, 421));
         x.run(1, 1000);
@@ -179,7 +184,7 @@ public final class MadeAnewTest {
         Due.is("b's record", x.record(1, 4), 3);
         Due.is("one byte more makes it anew", x.run(1, 1000), 1);
         Due.is("the second half", x.about(10), 1);
-        SuiteKeeper y = Due.loaded("test a{let x=true;}" + big("b", 1, 421));
+        Keeper y = Due.loadedBeyond("test a{let x=true;}" + big("b", 1, 421));
         y.run(1, 1000);
         Due.reload(y, "test a{let x=true;}" + big("bb", 1, 421));
         y.run(1, 1000);
@@ -193,7 +198,7 @@ public final class MadeAnewTest {
 
     /** A run for which there is no room even then isn't recorded, but others are. */
     private static void noRoomAtAll() {
-        SuiteKeeper x = Due.loaded(big("a", 1, 700));
+        Keeper x = Due.loadedBeyond(big("a", 1, 700));
         x.run(1, 1000);
         Due.is("bytes of the log", x.about(9), 6 + 15 + 6 * 700 + 7 + 16);
         StringBuilder sum = new StringBuilder();
@@ -218,7 +223,7 @@ public final class MadeAnewTest {
     }
 
     /** a's run has no room beside b's record, so that a has none; b's has, as a has none. */
-    private static void recordThatWent(SuiteKeeper x, String text) {
+    private static void recordThatWent(Keeper x, String text) {
         Due.reload(x, text.replace("return 1", "return 2"));
         Due.is("both are picked", x.about(5), 2);
         Due.is("b alone", x.run(1, 1000), 1);
@@ -236,7 +241,7 @@ public final class MadeAnewTest {
 
     /** Records of tests that the revision hasn't stay until the log is made anew. */
     private static void goneTests() {
-        SuiteKeeper x = filled();
+        Keeper x = filled();
         Due.reload(x, big("b", 4, 300));
         x.run(1, 1000);
         Due.is("made anew", x.about(10), 1);
@@ -251,7 +256,7 @@ public final class MadeAnewTest {
         Due.reload(x, "test a{}test c{check 1==2;}");
         Due.is("a isn't there", x.why(0), 1);
         Due.is("c isn't there", x.why(1), 1);
-        SuiteKeeper y = filled();
+        Keeper y = filled();
         Due.reload(y, "test other{}");
         y.run(1, 1000);
         Due.is("not made anew", y.about(10), 0);

@@ -1,7 +1,7 @@
 /** Promise 7: mark. */
 public final class MarkTest {
     public static void main(String[] args) {
-        SuiteKeeper x = Due.loaded("array b[4];global g:int=-1;func f():int{return g;}test t{check f()<0;}");
+        Keeper x = Due.loaded("array b[4];global g:int=-1;func f():int{return g;}test t{check f()<0;}");
         Due.is("array", x.mark(1, 0), (31 + 1) * 31 + 4);
         int[] bytes = {0, 0, 255, 255, 255, 255};
         int mark = 1;
@@ -21,7 +21,7 @@ public final class MarkTest {
         Due.fails("kind -1", none, () -> x.mark(-1, 0));
         Due.fails("array 1", none, () -> x.mark(1, 1));
         Due.fails("test -1", none, () -> x.mark(3, -1));
-        Due.fails("no revision", IllegalStateException.class, () -> new SuiteKeeper().mark(4, 0));
+        Due.fails("no revision", IllegalStateException.class, () -> new Keeper().mark(4, 0));
         Due.done("MarkTest");
     }
 }

@@ -2,7 +2,7 @@
 public final class NewObjectTest {
     public static void main(String[] args) {
         Due.is("NONE", SuiteKeeper.NONE, -1);
-        SuiteKeeper x = new SuiteKeeper();
+        Keeper x = new Keeper();
         for (int k = 0; k < 16384; k++) {
             Due.is("disk(" + k + ")", x.disk(k), k == 0 || k == 2 ? 1 : 0);
         }
@@ -34,7 +34,7 @@ public final class NewObjectTest {
         Due.is("load of the empty text", x.load(), 0);
         Due.fails("end(1)", IllegalArgumentException.class, () -> x.end(1));
         Due.is("the first sign", x.put('t'), 1);
-        SuiteKeeper y = new SuiteKeeper();
+        Keeper y = new Keeper();
         Due.is("another object's first sign", y.put('t'), 1);
         Due.done("NewObjectTest");
     }

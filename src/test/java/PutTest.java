@@ -8,7 +8,7 @@ public final class PutTest {
     }
 
     private static void ordinary() {
-        SuiteKeeper x = new SuiteKeeper();
+        Keeper x = new Keeper();
         Due.is("put(test)", x.put(0x74736574), 4);
         Due.is("put(  a)", x.put(0x61002000), 6);
         Due.is("put(0)", x.put(0), 6);
@@ -20,7 +20,7 @@ public final class PutTest {
     }
 
     private static void noSigns() {
-        SuiteKeeper x = new SuiteKeeper();
+        Keeper x = new Keeper();
         int[] none = {1, 7, 9, 11, 13, 31, 127, 128, 160, 255};
         for (int sign : none) {
             for (int place = 0; place < 4; place++) {
@@ -32,7 +32,7 @@ public final class PutTest {
     }
 
     private static void tooMany() {
-        SuiteKeeper x = new SuiteKeeper();
+        Keeper x = new Keeper();
         for (int n = 4; n <= 1496; n += 4) {
             Due.is("put", x.put(0x20202020), n);
         }

@@ -5,7 +5,7 @@ public final class RecordTest {
     public static void main(String[] args) {
         String text = "global g:int=1;func f(a:int):int{check true;check a<2;return a+g;}"
                 + "test s{check f(1)==2;check f(2)==3;}test t{check true;check true;check g==0;}test u{}";
-        SuiteKeeper x = Due.loaded(text);
+        Keeper x = Due.loaded(text);
         Class<NoSuchElementException> none = NoSuchElementException.class;
         Due.fails("no record", none, () -> x.record(0, 0));
         Due.fails("no record comes first", none, () -> x.record(0, 6));
@@ -27,7 +27,7 @@ public final class RecordTest {
         Due.fails("-1", wrong, () -> x.record(0, -1));
         Due.fails("test 4", IndexOutOfBoundsException.class, () -> x.record(4, 6));
         Due.fails("test -1", IndexOutOfBoundsException.class, () -> x.record(-1, 0));
-        Due.fails("no revision", IllegalStateException.class, () -> new SuiteKeeper().record(-1, 6));
+        Due.fails("no revision", IllegalStateException.class, () -> new Keeper().record(-1, 6));
         Due.done("RecordTest");
     }
 
@@ -50,7 +50,7 @@ public final class RecordTest {
             text.append("p").append(letter).append("();");
             items.append("proc p").append(letter).append("(){}");
         }
-        SuiteKeeper x = Due.loaded(text + "check n==45;}" + items);
+        Keeper x = Due.loaded(text + "check n==45;}" + items);
         Due.is("run", x.run(1, 1000), 1);
         all(x, 0, 0, -1, 16, 30, 1, 1);
         Due.is("the last routine", x.touched(0, 2, 15), true);
@@ -61,7 +61,7 @@ public final class RecordTest {
         Due.is("its name", x.whyName(0, 1), 'p');
     }
 
-    private static void all(SuiteKeeper x, int test, int... want) {
+    private static void all(Keeper x, int test, int... want) {
         for (int what = 0; what < 6; what++) {
             Due.is("record(" + test + ", " + what + ")", x.record(test, what), want[what]);
         }

@@ -10,7 +10,7 @@ public final class RunTest {
     }
 
     private static void ordinary() {
-        SuiteKeeper x = Due.loaded("global g:int=1;test s{check g==1;}test t{}");
+        Keeper x = Due.loaded("global g:int=1;test s{check g==1;}test t{}");
         Due.is("both", x.run(64, Integer.MAX_VALUE), 2);
         Due.is("nothing is picked", x.run(1, 1000), 0);
         Due.is("the first block twice, the second one, and nothing then", x.about(7), 3);
@@ -20,13 +20,13 @@ public final class RunTest {
         Due.is("s", x.verdict(0), 1);
         Due.is("of this revision", x.record(0, 4), 2);
         Due.is("t wasn't run again", x.record(1, 4), 1);
-        SuiteKeeper y = Due.loaded("global g:int=1;");
+        Keeper y = Due.loaded("global g:int=1;");
         Due.is("no tests", y.run(1, 0), 0);
     }
 
     private static void recordedInTheOrderOfEnds() {
         // without records all have one estimate: t on worker 0 till 4, u on 1 till 1, v on 1 till 4, w on 0
-        SuiteKeeper x = Due.loaded("test t{p();p();p();}test u{}test v{p();p();}test w{}proc p(){}");
+        Keeper x = Due.loaded("test t{p();p();p();}test u{}test v{p();p();}test w{}proc p(){}");
         Due.is("four", x.run(2, 1000), 4);
         String[] lines = Due.entries(x, 0).split("\n");
         StringBuilder order = new StringBuilder();
@@ -47,7 +47,7 @@ public final class RunTest {
         }
         int last = -1;
         for (int most = 0; most <= 20; most++) {
-            SuiteKeeper x = Due.loaded(text.toString());
+            Keeper x = Due.loaded(text.toString());
             int recorded = x.run(2, most);
             Due.is("no fewer with more blocks", recorded >= last, true);
             last = recorded;
@@ -71,20 +71,20 @@ public final class RunTest {
 
     /** Items' entries that are whole stay in the log, though their record isn't there. */
     private static void crashLeavesItems() {
-        SuiteKeeper x = Due.loaded("test testabc{let a=1;let b=2;let c=3;let d=4;let e=5;check a<2;}");
+        Keeper x = Due.loaded("test testabc{let a=1;let b=2;let c=3;let d=4;let e=5;check a<2;}");
         int size = Due.bytes(x, 3, 0).split(" ").length;
         Due.is("bytes of the test", size, 6 + 5 * 7 + 2 + 5 + 1 + 2 + 1 + 1);
         Due.is("a block, then a crash", x.run(1, 1), 0);
         Due.is("an entry of 66 isn't whole in it, so nothing is left", x.about(9), 0);
         Due.is("made anew: both heads", x.about(7), 3);
         Due.is("in the other half", x.about(10), 1);
-        SuiteKeeper y = Due.loaded("test testabcd{let a=1;let b=2;let c=3;let d=4;let e=a;let f=e;}");
+        Keeper y = Due.loaded("test testabcd{let a=1;let b=2;let c=3;let d=4;let e=a;let f=e;}");
         int bytes = Due.bytes(y, 3, 0).split(" ").length;
         Due.is("bytes of the test", bytes, 6 + 4 * 7 + 2 * 4 + 1 + 1);
         // an entry of 2 + 4 + 8 + 44 bytes, and three of the record, are in the block
         Due.is("a crash ahead of the record's end", y.run(1, 1), 0);
         Due.is("a record's beginning isn't whole", y.about(10), 1);
-        SuiteKeeper z = Due.loaded("test testabc{let a=1;let b=2;let c=3;let d=4;let e=a;let f=e;let g=f;}");
+        Keeper z = Due.loaded("test testabc{let a=1;let b=2;let c=3;let d=4;let e=a;let f=e;let g=f;}");
         // 2 + 4 + 7 + 48 = 61: the block ends with the entry
         Due.is("bytes of the test", Due.bytes(z, 3, 0).split(" ").length, 48);
         Due.is("a crash behind the item's entry", z.run(1, 1), 0);
@@ -97,7 +97,7 @@ public final class RunTest {
     }
 
     private static void wrongInputs() {
-        SuiteKeeper x = Due.loaded("test t{}");
+        Keeper x = Due.loaded("test t{}");
         Class<IllegalArgumentException> wrong = IllegalArgumentException.class;
         Due.fails("0 workers", wrong, () -> x.run(0, 1));
         Due.fails("65 workers", wrong, () -> x.run(65, 1));
@@ -105,7 +105,7 @@ public final class RunTest {
         Due.fails("-1 blocks", wrong, () -> x.run(1, -1));
         Due.fails("least", wrong, () -> x.run(1, Integer.MIN_VALUE));
         Due.fails("that was no run", IllegalStateException.class, () -> x.slot(0, 0));
-        Due.fails("no revision", IllegalStateException.class, () -> new SuiteKeeper().run(0, -1));
+        Due.fails("no revision", IllegalStateException.class, () -> new Keeper().run(0, -1));
         Due.is("it is picked still", x.run(1, 0), 0);
         Due.is("it is picked still", x.run(64, 1), 1);
     }

@@ -11,7 +11,7 @@ public final class SlotTest {
         Due.done("SlotTest");
     }
 
-    private static void slot(SuiteKeeper x, int i, int... want) {
+    private static void slot(Keeper x, int i, int... want) {
         for (int what = 0; what < 5; what++) {
             Due.is("slot(" + i + ", " + what + ")", x.slot(i, what), want[what]);
         }
@@ -19,13 +19,13 @@ public final class SlotTest {
 
     /** All estimates are 3000, so they go by number; fuels are 0, 5, 2 and 10. */
     private static void withoutRecords() {
-        SuiteKeeper x = Due.loaded(TEXT);
+        Keeper x = Due.loaded(TEXT);
         Due.is("run", x.run(2, 1000), 4);
         slot(x, 0, 0, 0, 0, 1, 1);
         slot(x, 1, 1, 1, 0, 6, 1);
         slot(x, 2, 2, 0, 1, 4, 1);
         slot(x, 3, 3, 0, 4, 15, 1);
-        SuiteKeeper y = Due.loaded(TEXT);
+        Keeper y = Due.loaded(TEXT);
         Due.is("run", y.run(64, 1000), 4);
         for (int i = 0; i < 4; i++) {
             Due.is("a worker each", y.slot(i, 1), i);
@@ -35,7 +35,7 @@ public final class SlotTest {
 
     /** With records that don't hold their fuel is the estimate; e is new and goes first. */
     private static void byEstimates() {
-        SuiteKeeper x = Due.loaded(TEXT);
+        Keeper x = Due.loaded(TEXT);
         x.run(2, 1000);
         Due.reload(x, TEXT.replace("proc p(){}", "proc p(){return;}").replace("test a{}", "test a{check true;}") + "test e{}test f{}");
         Due.is("six are picked", x.about(5), 6);
@@ -53,7 +53,7 @@ public final class SlotTest {
     }
 
     private static void crashed() {
-        SuiteKeeper x = Due.loaded("test a{}test b{}test c{}");
+        Keeper x = Due.loaded("test a{}test b{}test c{}");
         Due.is("run", x.run(3, 1), 1);
         slot(x, 0, 0, 0, 0, 1, 1);
         slot(x, 1, 1, 1, 0, 1, 0);
@@ -65,7 +65,7 @@ public final class SlotTest {
     }
 
     private static void wrongInputs() {
-        SuiteKeeper x = Due.loaded("test a{}");
+        Keeper x = Due.loaded("test a{}");
         Due.fails("no run", IllegalStateException.class, () -> x.slot(-1, 9));
         x.run(1, 1000);
         Due.fails("-1", IndexOutOfBoundsException.class, () -> x.slot(-1, 9));
@@ -77,6 +77,6 @@ public final class SlotTest {
         Due.is("the run stays", x.slot(0, 3), 1);
         Due.reload(x, "test a{}");
         Due.fails("none in this revision", IllegalStateException.class, () -> x.slot(0, 0));
-        Due.fails("no revision", IllegalStateException.class, () -> new SuiteKeeper().slot(-1, 9));
+        Due.fails("no revision", IllegalStateException.class, () -> new Keeper().slot(-1, 9));
     }
 }

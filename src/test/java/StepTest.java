@@ -1,7 +1,7 @@
 /** Promise 14: step. */
 public final class StepTest {
     public static void main(String[] args) {
-        SuiteKeeper x = Due.loaded("test s{let n=1;n=n+1;}test t{while(true){}}");
+        Keeper x = Due.loaded("test s{let n=1;n=n+1;}test t{while(true){}}");
         Class<IllegalStateException> noTrace = IllegalStateException.class;
         Class<IllegalArgumentException> wrong = IllegalArgumentException.class;
         Due.fails("no trace", noTrace, () -> x.step(1));
@@ -25,7 +25,7 @@ public final class StepTest {
         Due.is("the rest", x.step(100000), 4);
         Due.is("without fuel", x.traced(0), 3);
         Due.fails("-1 behind its end", wrong, () -> x.step(-1));
-        Due.fails("no revision", noTrace, () -> new SuiteKeeper().step(0));
+        Due.fails("no revision", noTrace, () -> new Keeper().step(0));
         Due.done("StepTest");
     }
 }

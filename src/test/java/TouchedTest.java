@@ -6,7 +6,7 @@ public final class TouchedTest {
             + "proc p(n:int){check n==1;}proc q(){}test s{p(f());p(a[0]);}test t{h=2;q();check false;}test u{b[1]=0;}";
 
     public static void main(String[] args) {
-        SuiteKeeper x = Due.loaded(TEXT);
+        Keeper x = Due.loaded(TEXT);
         Class<NoSuchElementException> none = NoSuchElementException.class;
         Due.fails("no record", none, () -> x.touched(0, 0, 0));
         Due.fails("no record comes first", none, () -> x.touched(0, 9, 9));
@@ -20,7 +20,7 @@ public final class TouchedTest {
     }
 
     /** Names of what was touched; behind ! where the check stood, nothing for the test itself. */
-    private static void all(SuiteKeeper x, int test, String touched) {
+    private static void all(Keeper x, int test, String touched) {
         int check = touched.indexOf('!');
         String items = check < 0 ? touched : touched.substring(0, check);
         String names = "gh ab fpq";
@@ -43,7 +43,7 @@ public final class TouchedTest {
         Due.is(test + "'s own check", x.touched(test, 3, SuiteKeeper.NONE), touched.endsWith("!"));
     }
 
-    private static void wrongInputs(SuiteKeeper x) {
+    private static void wrongInputs(Keeper x) {
         Class<IllegalArgumentException> wrong = IllegalArgumentException.class;
         Due.fails("kind 4", wrong, () -> x.touched(0, 4, 0));
         Due.fails("kind -1", wrong, () -> x.touched(0, -1, 0));
@@ -56,10 +56,10 @@ public final class TouchedTest {
         Due.fails("without a check, too", wrong, () -> x.touched(2, 3, 3));
         Due.fails("test 3", IndexOutOfBoundsException.class, () -> x.touched(3, 9, 0));
         Due.fails("test -1", IndexOutOfBoundsException.class, () -> x.touched(-1, 0, 0));
-        Due.fails("no revision", IllegalStateException.class, () -> new SuiteKeeper().touched(-1, 9, 0));
+        Due.fails("no revision", IllegalStateException.class, () -> new Keeper().touched(-1, 9, 0));
     }
 
-    private static void otherRevisions(SuiteKeeper x) {
+    private static void otherRevisions(Keeper x) {
         // numbers are those of the revision, names and kinds those of the record; f is a proc now
         Due.reload(x, "proc f(){}proc q(){}proc p(n:int){}global h:int=1;global g:int=5;array z[1];test s{}");
         Due.is("f is of one kind", x.touched(0, 2, 0), true);

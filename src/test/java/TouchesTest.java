@@ -9,7 +9,7 @@ public final class TouchesTest {
     }
 
     private static void ordinary() {
-        SuiteKeeper x = Due.loaded("global a:int=1;global b:int=2;array c[2];array d[2];array e[2];"
+        Keeper x = Due.loaded("global a:int=1;global b:int=2;array c[2];array d[2];array e[2];"
                 + "proc p(){}func f():int{return a;}proc q(){}test t{b=f();c[0]=1;d[1]=c[1];if(false){q();e[0]=1;}}");
         x.trace(0);
         Due.is("nothing at first", x.touches(2, 1), false);
@@ -32,7 +32,7 @@ public final class TouchesTest {
     }
 
     private static void tried() {
-        SuiteKeeper x = Due.loaded("array c[2];array d[2];test t{let n=c[2];}test u{d[-1]=0;}");
+        Keeper x = Due.loaded("array c[2];array d[2];test t{let n=c[2];}test u{d[-1]=0;}");
         x.trace(0);
         x.step(100);
         Due.is("tried to read", x.touches(1, 0), true);
@@ -44,12 +44,12 @@ public final class TouchesTest {
 
     private static void lastCalls() {
         // f has called itself with 0 to 19, so the 21st call is that of h
-        SuiteKeeper x = Due.loaded("func f(n:int):int{if(n==19){return h();}return f(n+1);}func h():int{return 0;}test t{let a=f(0);}");
+        Keeper x = Due.loaded("func f(n:int):int{if(n==19){return h();}return f(n+1);}func h():int{return 0;}test t{let a=f(0);}");
         x.trace(0);
         x.step(100000);
         Due.is("too many calls", x.traced(0), 4);
         Due.is("h is touched", x.touches(2, 1), true);
-        SuiteKeeper y = Due.loaded("test t{let i=0;while(i<3000){i=i+1;}p();}proc p(){}");
+        Keeper y = Due.loaded("test t{let i=0;while(i<3000){i=i+1;}p();}proc p(){}");
         y.trace(0);
         y.step(100000);
         Due.is("no fuel", y.traced(0), 3);
@@ -57,7 +57,7 @@ public final class TouchesTest {
     }
 
     private static void wrongInputs() {
-        SuiteKeeper x = Due.loaded("global a:int=1;test t{}");
+        Keeper x = Due.loaded("global a:int=1;test t{}");
         Due.fails("no trace", IllegalStateException.class, () -> x.touches(3, 0));
         x.trace(0);
         Class<IndexOutOfBoundsException> none = IndexOutOfBoundsException.class;
@@ -68,6 +68,6 @@ public final class TouchesTest {
         Due.fails("array 0", none, () -> x.touches(1, 0));
         Due.fails("routine 0", none, () -> x.touches(2, 0));
         Due.fails("routine 32", none, () -> x.touches(2, 32));
-        Due.fails("no revision", IllegalStateException.class, () -> new SuiteKeeper().touches(0, 0));
+        Due.fails("no revision", IllegalStateException.class, () -> new Keeper().touches(0, 0));
     }
 }

@@ -1,7 +1,7 @@
 /** Promise 13: trace. */
 public final class TraceTest {
     public static void main(String[] args) {
-        SuiteKeeper x = Due.loaded("global g:int=4;array b[2];test s{g=5;b[1]=6;}test t{let n=g;}");
+        Keeper x = Due.loaded("global g:int=4;array b[2];test s{g=5;b[1]=6;}test t{let n=g;}");
         x.trace(0);
         Due.is("not ended", x.traced(0), SuiteKeeper.NONE);
         Due.is("all of it", x.step(100), 6);
@@ -29,7 +29,7 @@ public final class TraceTest {
         Due.is("another one", x.step(5), 1);
         Due.is("nothing is recorded", x.about(6), 2);
         Due.is("it would still run", x.why(0), 2);
-        Due.fails("no revision", IllegalStateException.class, () -> new SuiteKeeper().trace(-1));
+        Due.fails("no revision", IllegalStateException.class, () -> new Keeper().trace(-1));
         Due.done("TraceTest");
     }
 }

@@ -8,14 +8,14 @@ public final class TracedTest {
         Due.done("TracedTest");
     }
 
-    private static void all(String when, SuiteKeeper x, int... want) {
+    private static void all(String when, Keeper x, int... want) {
         for (int what = 0; what < 7; what++) {
             Due.is(when + ": traced(" + what + ")", x.traced(what), want[what]);
         }
     }
 
     private static void ordinary() {
-        SuiteKeeper x = Due.loaded("proc o(){}func f(a:int):int{o();return a*2;}test t{let n=1+f(3);}");
+        Keeper x = Due.loaded("proc o(){}func f(a:int):int{o();return a*2;}test t{let n=1+f(3);}");
         x.trace(0);
         all("at first", x, -1, 0, 0, -1, 0, 0, 0);
         x.step(2);
@@ -34,8 +34,8 @@ public final class TracedTest {
         all("ended", x, 0, 2, 0, -1, 16, 0, 12);
     }
 
-    private static SuiteKeeper ended(String text) {
-        SuiteKeeper x = Due.loaded(text);
+    private static Keeper ended(String text) {
+        Keeper x = Due.loaded(text);
         x.trace(0);
         x.step(100000);
         return x;
@@ -56,13 +56,13 @@ public final class TracedTest {
         all("too many calls", ended("test t{let a=f(9,8);}func f(a:int,b:int):int{return f(b,a);}"),
                 4, 21, 20, 0, 6, 2, 63);
         // a call, 749 rounds of a round and three calls, a round and two calls: the third has no fuel
-        SuiteKeeper x = ended("test t{p(0);while(true){p(1);q(2);p(3);}}proc p(a:int){}proc q(a:int){}");
+        Keeper x = ended("test t{p(0);while(true){p(1);q(2);p(3);}}proc p(a:int){}proc q(a:int){}");
         all("no call", x, 3, 3000, 0, -1, 33, 1, 3 + 749 * 13 + 11);
         Due.is("its parameter stays", x.value(0), 3);
-        SuiteKeeper y = ended("test t{p();p();}proc p(){let i=0;while(i<1499){i=i+1;}}");
+        Keeper y = ended("test t{p();p();}proc p(){let i=0;while(i<1499){i=i+1;}}");
         Due.is("just enough", y.traced(0), 0);
         Due.is("all fuel", y.traced(1), 3000);
-        SuiteKeeper z = ended("test t{p();p();p();}proc p(){let i=0;while(i<1499){i=i+1;}}");
+        Keeper z = ended("test t{p();p();p();}proc p(){let i=0;while(i<1499){i=i+1;}}");
         Due.is("one too many", z.traced(0), 3);
         Due.is("all fuel", z.traced(1), 3000);
         Due.is("the place behind the call", z.traced(4), 6);
@@ -70,11 +70,11 @@ public final class TracedTest {
     }
 
     private static void wrongInputs() {
-        SuiteKeeper x = Due.loaded("test t{}");
+        Keeper x = Due.loaded("test t{}");
         Due.fails("no trace", IllegalStateException.class, () -> x.traced(7));
         x.trace(0);
         Due.fails("7", IllegalArgumentException.class, () -> x.traced(7));
         Due.fails("-1", IllegalArgumentException.class, () -> x.traced(-1));
-        Due.fails("no revision", IllegalStateException.class, () -> new SuiteKeeper().traced(0));
+        Due.fails("no revision", IllegalStateException.class, () -> new Keeper().traced(0));
     }
 }

@@ -1,7 +1,7 @@
 /** Promise 16: value, and what each instruction leaves on top. */
 public final class ValueTest {
     public static void main(String[] args) {
-        SuiteKeeper x = Due.loaded("func f(a:int):int{return a*(a+1);}test t{let n=10-f(3)*2;}");
+        Keeper x = Due.loaded("func f(a:int):int{return a*(a+1);}test t{let n=10-f(3)*2;}");
         Class<IndexOutOfBoundsException> none = IndexOutOfBoundsException.class;
         Due.fails("no trace", IllegalStateException.class, () -> x.value(-1));
         x.trace(0);
@@ -23,12 +23,12 @@ public final class ValueTest {
         Due.is("10 still", x.value(1), 10);
         sums();
         deepest();
-        Due.fails("no revision", IllegalStateException.class, () -> new SuiteKeeper().value(0));
+        Due.fails("no revision", IllegalStateException.class, () -> new Keeper().value(0));
         Due.done("ValueTest");
     }
 
     private static void gives(String expression, int want) {
-        SuiteKeeper x = Due.loaded("global big:int=999999;global min:int=-1;array b[3];test t{let n=" + expression + ";}");
+        Keeper x = Due.loaded("global big:int=999999;global min:int=-1;array b[3];test t{let n=" + expression + ";}");
         x.trace(0);
         x.step(100000);
         Due.is(expression, x.local(0), want);
@@ -44,7 +44,7 @@ public final class ValueTest {
         for (int k = 0; k < 11; k++) {
             text.append(')');
         }
-        SuiteKeeper x = Due.loaded(text + ";}test t{let n=g(true,true,true,true);}");
+        Keeper x = Due.loaded(text + ";}test t{let n=g(true,true,true,true);}");
         for (int n = 0; n < 3; n++) {
             x.trace(0);
             x.step(100000);

@@ -3,7 +3,7 @@ public final class VerdictTest {
     public static void main(String[] args) {
         String text = "array b[1];func f():int{return f();}test a{}test c{check false;}test d{let n=1/0;}"
                 + "test e{while(true){}}test g{check f()==1;}test h{b[1]=1;}";
-        SuiteKeeper x = Due.loaded(text);
+        Keeper x = Due.loaded(text);
         for (int test = 0; test < 6; test++) {
             Due.is("no record", x.verdict(test), SuiteKeeper.NONE);
         }
@@ -26,7 +26,7 @@ public final class VerdictTest {
         Class<IndexOutOfBoundsException> none = IndexOutOfBoundsException.class;
         Due.fails("test 1", none, () -> x.verdict(1));
         Due.fails("test -1", none, () -> x.verdict(-1));
-        Due.fails("no revision", IllegalStateException.class, () -> new SuiteKeeper().verdict(-1));
+        Due.fails("no revision", IllegalStateException.class, () -> new Keeper().verdict(-1));
         Due.done("VerdictTest");
     }
 }

@@ -4,7 +4,7 @@ import java.util.NoSuchElementException;
 public final class WhyNameTest {
     public static void main(String[] args) {
         String text = "global ab:int=1;func abcdefgh():int{return ab;}test t{check abcdefgh()==1;}test u{}";
-        SuiteKeeper x = Due.loaded(text);
+        Keeper x = Due.loaded(text);
         Class<NoSuchElementException> none = NoSuchElementException.class;
         Due.fails("no record", none, () -> x.whyName(0, 0));
         x.run(1, 1000);
@@ -27,7 +27,7 @@ public final class WhyNameTest {
         Due.fails("k -1 comes ahead", IndexOutOfBoundsException.class, () -> x.whyName(1, -1));
         Due.fails("test 2", IndexOutOfBoundsException.class, () -> x.whyName(2, 0));
         Due.fails("test -1", IndexOutOfBoundsException.class, () -> x.whyName(-1, 0));
-        Due.fails("no revision", IllegalStateException.class, () -> new SuiteKeeper().whyName(0, -1));
+        Due.fails("no revision", IllegalStateException.class, () -> new Keeper().whyName(0, -1));
         Due.done("WhyNameTest");
     }
 }

@@ -5,7 +5,7 @@ public final class WhyTest {
     private static final String TESTS = "test ta{pa();check aa[0]==3;}test tb{}";
 
     public static void main(String[] args) {
-        SuiteKeeper x = Due.loaded(HEAD + ROUTINES + TESTS);
+        Keeper x = Due.loaded(HEAD + ROUTINES + TESTS);
         why(x, 1, 1);
         x.run(1, 1000);
         why(x, 0, 0);
@@ -16,13 +16,13 @@ public final class WhyTest {
         Due.done("WhyTest");
     }
 
-    private static void why(SuiteKeeper x, int first, int second) {
+    private static void why(Keeper x, int first, int second) {
         Due.is("why(0)", x.why(0), first);
         Due.is("why(1)", x.why(1), second);
     }
 
-    private static SuiteKeeper run(String next) {
-        SuiteKeeper x = Due.loaded(HEAD + ROUTINES + TESTS);
+    private static Keeper run(String next) {
+        Keeper x = Due.loaded(HEAD + ROUTINES + TESTS);
         x.run(1, 1000);
         Due.reload(x, next);
         return x;
@@ -52,7 +52,7 @@ public final class WhyTest {
         why(run(all.replace("ga", "gx")), 3, 0);
         why(run(all.replace("array aa[2];", "").replace("aa[0]=fa(gb);", "gb=fa(gb);").replace("aa[0]", "3")), 2, 0);
         // what isn't touched doesn't count, nor a global that is set alone
-        SuiteKeeper x = Due.loaded("global g:int=1;global h:int=1;func f():int{}test t{if(false){g=f();}h=5;}");
+        Keeper x = Due.loaded("global g:int=1;global h:int=1;func f():int{}test t{if(false){g=f();}h=5;}");
         x.run(1, 1000);
         Due.is("two are set alone", x.record(0, 3), 0);
         Due.reload(x, "global g:int=9;global h:int=9;func f():int{return 3;}test t{if(false){g=f();}h=5;}");
@@ -65,18 +65,18 @@ public final class WhyTest {
     }
 
     private static void crashed() {
-        SuiteKeeper x = Due.loaded("test a{}test b{}");
+        Keeper x = Due.loaded("test a{}test b{}");
         x.run(1, 1);
         why(x, 0, 1);
         x.run(1, 1000);
         why(x, 0, 0);
     }
 
-    private static void wrongInputs(SuiteKeeper x) {
+    private static void wrongInputs(Keeper x) {
         Class<IndexOutOfBoundsException> none = IndexOutOfBoundsException.class;
         Due.fails("test 2", none, () -> x.why(2));
         Due.fails("test -1", none, () -> x.why(-1));
         Due.fails("test greatest", none, () -> x.why(Integer.MAX_VALUE));
-        Due.fails("no revision", IllegalStateException.class, () -> new SuiteKeeper().why(-1));
+        Due.fails("no revision", IllegalStateException.class, () -> new Keeper().why(-1));
     }
 }
