@@ -9,7 +9,6 @@ public final class MadeAnewTest {
         made();
         crashes();
         staleBlocks();
-        manyEpochs();
         bothHeadsCount();
         exactlyFull();
         noRoomAtAll();
@@ -48,6 +47,7 @@ public final class MadeAnewTest {
         return "test a{}" + big("b", first, 332) + "test c{check 1==2;}";
     }
 
+    /** Promise 22, term 5: "If there is no room for it in the half's 127 blocks, the log is first MADE ANEW in the other half". */
     private static void made() {
         Keeper x = filled();
         int written = x.about(7);
@@ -73,7 +73,7 @@ public final class MadeAnewTest {
         Due.is("recorded since the beginning", x.about(6), 6);
     }
 
-    /** After each block of it: what is on the disk counts. */
+    /** Promise 22, term 5: "blocks are written from 1 on, each once, then the head; then the old head", and a crash after each. */
     private static void crashes() {
         for (int most = 0; most <= 38; most++) {
             Keeper x = filled();
@@ -97,7 +97,7 @@ public final class MadeAnewTest {
         }
     }
 
-    /** As above, but the half has blocks of an older epoch behind its log. */
+    /** Promise 22, term 5: "up to the first one that has another epoch": the half has older blocks behind its log. */
     private static void staleBlocks() {
         for (int most = 0; most <= 34; most++) {
             Keeper x = filled();
@@ -133,22 +133,7 @@ public final class MadeAnewTest {
         }
     }
 
-    /** An entry that never gets whole: each crash makes the log anew, with one epoch more. */
-    private static void manyEpochs() {
-        Keeper x = Due.loadedBeyond(big("b", 1, 40));
-        for (int epoch = 2; epoch <= 300; epoch++) {
-            Due.is("run", x.run(1, 1), 0);
-            Due.is("epoch", x.about(11), epoch);
-        }
-        int head = 8192 * x.about(10);
-        Due.is("lowest first", x.disk(head), 300 - 256);
-        Due.is("then the other one", x.disk(head + 1), 1);
-        Due.is("run", x.run(1, 1000), 1);
-        Due.is("lowest first", x.disk(head + 64), 300 - 256);
-        Due.is("then the other one", x.disk(head + 65), 1);
-    }
-
-    /** A crash between the two heads, with the second half being the old one. */
+    /** Promise 22, term 5: "The half whose head counts with the greater epoch is the LIVE one", by a crash between the two heads. */
     private static void bothHeadsCount() {
         Keeper x = filled();
         for (int first = 4; first <= 6; first++) {
@@ -166,7 +151,7 @@ public final class MadeAnewTest {
         Due.is("a has", x.why(0), 0);
     }
 
-    /** 127 blocks of 61 bytes have room, a byte more hasn't. */
+    /** Promise 22, term 5: "the half's 127 blocks": 7747 bytes have room, a byte more hasn't. */
     private static void exactlyFull() {
         Keeper x = Due.loadedBeyond("test a{}" + big("b", 1, 421));
         x.run(1, 1000);
@@ -196,7 +181,7 @@ public final class MadeAnewTest {
         Due.is("made anew", y.about(10), 1);
     }
 
-    /** A run for which there is no room even then isn't recorded, but others are. */
+    /** Promise 22, term 5: "If then there is still no room the run is not recorded (.. runs that end later may still be)". */
     private static void noRoomAtAll() {
         Keeper x = Due.loadedBeyond(big("a", 1, 700));
         x.run(1, 1000);
@@ -222,7 +207,7 @@ public final class MadeAnewTest {
         recordThatWent(x, text);
     }
 
-    /** a's run has no room beside b's record, so that a has none; b's has, as a has none. */
+    /** Promise 22, term 5: "(its test has no record then ..)": a's run has no room beside b's; b's has, as a has none. */
     private static void recordThatWent(Keeper x, String text) {
         Due.reload(x, text.replace("return 1", "return 2"));
         Due.is("both are picked", x.about(5), 2);
@@ -239,7 +224,7 @@ public final class MadeAnewTest {
         Due.is("recorded since the beginning", x.about(6), 5);
     }
 
-    /** Records of tests that the revision hasn't stay until the log is made anew. */
+    /** Promise 22, term 4: "(Records of tests that it hasn't stay, as long as the log isn't made anew.)" */
     private static void goneTests() {
         Keeper x = filled();
         Due.reload(x, big("b", 4, 300));
