@@ -18,6 +18,7 @@ public final class CrashEdges {
         withAllRecords();
         byNumbers();
         otherRevisionsTests();
+        recordsThatWent();
         epochs();
         whatTheDiskTells();
         Due.done("CrashEdges");
@@ -191,6 +192,25 @@ public final class CrashEdges {
         Due.is("a's went", x.why(0), 1);
         Due.is("b's is there", x.why(1), 0);
         Due.is("it was recorded, too", x.about(6), 2);
+    }
+
+    /** Promise 22, term 4: a record that went doesn't come back when its half is live again. */
+    private static void recordsThatWent() {
+        Keeper x = Due.loaded("test a{}test b{}");
+        x.run(1, 1000);
+        Due.reload(x, "test b{}test c{check 1+2+3+4+5+6+7+8+9==45;}");
+        Due.is("the second half", x.run(1, 1), 0);
+        Due.is("the first half again", x.run(1, 1), 0);
+        Due.is("its epoch", x.about(11), 3);
+        Due.is("its half", x.about(10), 0);
+        Due.reload(x, "test a{}test b{}test c{}");
+        Due.is("a's went", x.why(0), 1);
+        Due.is("b's is there", x.why(1), 0);
+        Due.is("c never had one", x.why(2), 1);
+        Due.is("both are recorded", x.run(1, 1000), 2);
+        Due.is("entries", Due.entries(x, 0), "item 0 b 4 0 2 0 1 0 13 0\nrecord b 0 0 0 0 0 0 1 0 0 0 0\n"
+                + "item 1 a 4 0 2 0 1 0 13 0\nrecord a 0 0 0 0 0 0 3 0 1 0 0\n"
+                + "item 2 c 4 0 2 0 1 0 13 0\nrecord c 0 0 0 0 0 0 3 0 2 0 0\n");
     }
 
     /** Promise 22, term 5: "with an epoch of one more ..", "its EPOCH in two bytes", the halves by turns. */

@@ -12,7 +12,9 @@ public final class MadeAnewTest {
         bothHeadsCount();
         exactlyFull();
         noRoomAtAll();
+        laterRunsFit();
         goneTests();
+        wrapBetweenHeads();
         Due.done("MadeAnewTest");
     }
 
@@ -31,16 +33,21 @@ public final class MadeAnewTest {
 
     /** Three times some 2036 bytes, and those of the small tests, have room; a fourth time hasn't. */
     private static Keeper filled() {
-        Keeper x = Due.loadedBeyond("test a{}" + big("b", 1, 332) + "test c{check 1==2;}");
+        Keeper x = Keeper.beyond();
+        fill(x);
+        Due.is("the first half", x.about(10), 0);
+        return x;
+    }
+
+    private static void fill(Keeper x) {
+        Due.reload(x, tests(1));
         Due.is("bytes", size(x, 1), 6 + 15 + 6 * 332);
         x.run(1, 1000);
         for (int first = 2; first <= 3; first++) {
-            Due.reload(x, "test a{}" + big("b", first, 332) + "test c{check 1==2;}");
+            Due.reload(x, tests(first));
             Due.is("one more", x.run(1, 1000), 1);
         }
         Due.is("bytes of the log", x.about(9), 31 + 3 * (2 + 4 + 1 + 2013 + 16) + (7 + 21 + 16));
-        Due.is("the first half", x.about(10), 0);
-        return x;
     }
 
     private static String tests(int first) {
@@ -222,6 +229,54 @@ public final class MadeAnewTest {
         Due.is("a has room then", x.run(1, 1000), 1);
         Due.is("not made anew", x.about(11), 5);
         Due.is("recorded since the beginning", x.about(6), 5);
+    }
+
+    /** Promise 22, term 5: ".. runs that end later may still be", and what had no room leaves nothing in the log. */
+    private static void laterRunsFit() {
+        Keeper x = Due.loadedBeyond(big("a", 1, 700));
+        x.run(1, 1000);
+        // a's old record has 4244 bytes; b's run needs 4 * 1000 and ends first; the new one of a is small
+        Due.reload(x, "test a{}" + big("b", 1, 650) + "test c{}");
+        Due.is("c and a", x.run(1, 1000), 2);
+        Due.is("b went first", x.slot(0, 0), 1);
+        Due.is("b isn't recorded", x.slot(0, 4), 0);
+        Due.is("b has no record", x.why(1), 1);
+        Due.is("c is behind what was made anew", x.verdict(2), 0);
+        Due.is("so is a", x.verdict(0), 0);
+        Due.is("once made anew", x.about(11), 2);
+        Due.is("bytes of the log", x.about(9), 6 + 15 + 6 * 700 + 7 + 16 + 31 + 31);
+        Due.is("on the disk", Due.log(x, 1).size(), x.about(9));
+        String[] lines = Due.entries(x, 1).split("\n");
+        Due.is("a's old item", lines[0].startsWith("item 0 a 4 "), true);
+        Due.is("c's record", lines[3], "record c 0 0 0 0 0 0 2 0 1 0 0");
+        Due.is("a's item", lines[4], "item 2 a 4 0 2 0 1 0 13 0");
+        Due.is("a's record", lines[5], "record a 0 0 0 0 0 0 2 0 2 0 0");
+        Due.is("b has room when a's old record is gone", x.run(1, 1000), 1);
+        Due.is("made anew for it", x.about(11), 3);
+    }
+
+    /** Promise 22, term 5: "(65535 being followed by 1)", and then the greater epoch is that of the old half. */
+    private static void wrapBetweenHeads() {
+        Keeper x = Keeper.beyond();
+        Due.reload(x, big("z", 1, 40));
+        for (int epoch = 2; epoch <= 65535; epoch++) {
+            x.run(1, 1);
+        }
+        Due.is("the last epoch", x.about(11), 65535);
+        fill(x);
+        int half = x.about(10);
+        Due.reload(x, tests(4));
+        Due.is("two blocks and a head", x.run(1, 3), 0);
+        Due.is("the other head counts", x.disk(8192 * (1 - half) + 2), 1);
+        Due.is("with epoch 1", x.disk(8192 * (1 - half)) + 256 * x.disk(8192 * (1 - half) + 1), 1);
+        Due.is("the old one counts, too", x.disk(8192 * half + 2), 1);
+        Due.is("and has the greater epoch", x.about(11), 65535);
+        Due.is("so it is live", x.about(10), half);
+        Due.is("with b's old record", x.why(1), 2);
+        Due.is("then", x.run(1, 1000), 1);
+        Due.is("1 again", x.about(11), 1);
+        Due.is("the other half", x.about(10), 1 - half);
+        Due.is("b holds", x.verdict(1), 0);
     }
 
     /** Promise 22, term 4: "(Records of tests that it hasn't stay, as long as the log isn't made anew.)" */
