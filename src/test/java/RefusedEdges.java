@@ -81,7 +81,7 @@ public final class RefusedEdges {
         add("verdict(0)", none, x -> x.verdict(0));
         add("record(0, 0)", none, x -> x.record(0, 0));
         add("touched(0, 0, 0)", none, x -> x.touched(0, 0, 0));
-        compare("a new object", x -> put(x, "test t{}"), 2, new State.Call("load()", SuiteKeeper::load),
+        compare("a new object", x -> put(x, "test t{}"), 3, new State.Call("load()", SuiteKeeper::load),
                 new State.Call("trace(0)", x -> {
                     x.trace(0);
                     return x.step(5);
