@@ -62,6 +62,8 @@ public final class SuiteKeeper {
     private static final int BLOCK_HEAD = 3;
     private static final int BLOCK_ROOM = 61;
     private static final int HALF_BLOCKS = 128;
+    /** Above how many blocks are written when a log is made anew: its half and the other's head. */
+    private static final int MOST_ANEW = 256;
     private static final int HALF = 8192;
     private static final int DISK = 16384;
     private static final int MOST_LOG = 7747;
@@ -2556,7 +2558,7 @@ public final class SuiteKeeper {
             boolean secondCounts = byteAt(blocks, HALF + 2) == 1;
             boolean secondIsGreater = twoAt(blocks, HALF) > twoAt(blocks, 0);
             live = secondCounts && (!firstCounts || secondIsGreater) ? 1 : 0;
-            allow(Integer.MAX_VALUE);
+            allow(MOST_ANEW);
             Log log = liveLog();
             log.readFrom(blocks, live);
             if (!log.whole) {
